@@ -173,6 +173,9 @@ public final class PromiseTests {
         throwsJust("a wrong 13th text", ARGUMENT, () -> tape(x, "window 0").cluster());
         is("fault of a wrong 13th text", x.fault(), 7);
         is("the tape is used up", x.end(1), false);
+        SlotCluster zero = cluster("node ahead 0 fast 0 flaky 0 late 0;node behind 0 slow 0 torn 0 off;round 0");
+        is("late by 0", zero.node(0, 9), 1);
+        is("torn by 0", zero.node(1, 9), 3);
         is("14 lines", tape(new SlotCluster(), times("round 1", ";", 14)).cluster(), 1);
     }
 
@@ -207,6 +210,12 @@ public final class PromiseTests {
         wrongCluster("round 0000", 6);
         wrongCluster("node;window", 11);
         wrongCluster("node,node", 4);
+        wrongCluster("nodez", 0);
+        wrongCluster("round 1z", 7);
+        wrongCluster("round 1`", 7);
+        wrongCluster("round 1{", 7);
+        wrongCluster("round 1:", 7);
+        wrongCluster("round 1/", 7);
         wrongCluster("node\t", 4);
         wrongCluster("node" + (char) 0, 4);
         wrongCluster((char) 233 + "", 0);
@@ -241,6 +250,19 @@ public final class PromiseTests {
         is("alone is whatever it is itself", lateBy(x, "alone", 1), 1);
         is("slow", lateBy(x, "slow>3 and slow<5 and fast<1", 1), 1);
         is("flaky", lateBy(x, "flaky and members>0 and members<2", 1), 1);
+        SlotCluster words = cluster("node active;node flaky 1;node fast 2;round 9");
+        is("alone, not flaky", lateBy(words, "alone and not flaky", 0), 1);
+        is("flaky by 1, not alone", lateBy(words, "flaky and not alone", 1), 1);
+        is("even, not", lateBy(words, "not even and not flaky and not alone", 2), 1);
+        words.power(0, false);
+        is("nobody active: alone", lateBy(words, "alone", 2), 1);
+        SlotCluster rated = cluster("node slow 2 active;node ahead 40 active;node ahead 20;round 1");
+        rated.rounds(1);
+        is("rate of half of 40 by 4", rated.node(0, 2), 5);
+        is("rate of half of - 40 by 4", rated.node(1, 2), -5);
+        is("fast by drift and rate", lateBy(rated, "fast>2 and fast<4 and slow<1", 0), 1);
+        is("slow by the rate", lateBy(rated, "slow>4 and slow<6 and fast<1", 1), 1);
+        is("good", lateBy(rated, "good>1 and good<3 and bad<1", 0), 1);
         is("and binds more", lateBy(x, "1>0 or 1>0 and 0>1", 1), 1);
         is("lines", tape(x, "late 5;late 7 if node>0;omit 9;omit 95 ;hold 99;hold 2").law(), 6);
         is("held up", x.node(1, 11), 12);
@@ -331,6 +353,10 @@ public final class PromiseTests {
         x.spoil(0, 2, 0);
         is("silent omits", x.node(0, 12), 100);
         is("silent does not pass", x.node(0, 14), 0);
+        SlotCluster waits = cluster("node;node active;node ahead 30 active");
+        is("no middle of one that is not active", waits.node(0, 16), 0);
+        is("it has a middle if it is", waits.node(1, 16), 15);
+        is("nobody is known by a listening one", waits.node(0, 17), 0);
         SlotCluster y = cluster(times("node active", ";", 8) + ";precision 999;window 999");
         int[] clocks = {0, 8, -2, 30, 31, 500, -700, 50};
         for (int i = 0; i < 8; i++) {
@@ -347,6 +373,11 @@ public final class PromiseTests {
         SlotCluster x = cluster("node ahead 10 torn 7 active;node behind 20 late 30;node ahead 60", "late 4 if node<1");
         is("shift for an even one", x.shift(0, 2), 14);
         is("shift for an odd one", x.shift(0, 1), 21);
+        SlotCluster eight = cluster("node torn 1" + times(";node", "", 7));
+        int[] odd = {0, 1, 0, 1, 0, 1, 0, 1};
+        for (int i = 1; i < 8; i++) {
+            is("shift for " + i, eight.shift(0, i), odd[i]);
+        }
         is("shift of a late one", x.shift(1, 0), 10);
         throwsJust("shift", INDEX, () -> x.shift(3, 3));
         throwsJust("shift", INDEX, () -> x.shift(0, -1));
@@ -437,6 +468,10 @@ public final class PromiseTests {
         is("by (e)", mute.log(0, 2), 4);
         is("bad", mute.log(0, 3), 2);
         is("members", mute.node(2, 5), 0);
+        SlotCluster first = cluster("node ahead 200 active;node active;node active");
+        is("frozen by (e), the first", first.rounds(1), 1);
+        is("who", first.byState(3), 1);
+        is("not corrected, as it is frozen", first.node(0, 0), 200);
         // As good as bad: 1 sends and hears itself alone of 2.
         SlotCluster even = cluster("node late 60 active;node active;window 999");
         is("good at most bad", even.rounds(1), 2);
@@ -494,6 +529,26 @@ public final class PromiseTests {
         x.rounds(1);
         is("38 is below 50: it omits", x.node(1, 3), 1);
         is("seed", x.seed(1), 1103527590);
+        SlotCluster top = cluster("node active;round 999");
+        for (int i = 0; i < 151; i++) {
+            top.rounds(60);
+        }
+        is("round, 9999 at most", top.count(5), 9999);
+        top.rounds(1);
+        is("round, 9999 at most", top.count(5), 9999);
+        SlotCluster again = cluster("node slow 2 active;node ahead 40 active;round 1");
+        again.rounds(1);
+        again.power(0, false);
+        again.power(1, false);
+        again.power(0, true);
+        is("rate stays of one that is switched on", again.node(0, 2), 5);
+        again.rounds(2);
+        is("called", again.node(0, 3), 2);
+        is("rate 0 of one that called", again.node(0, 2), 0);
+        again.power(1, true);
+        again.rounds(1);
+        is("joined", again.node(1, 3), 2);
+        is("rate stays of one that joined", again.node(1, 2), -5);
         x.spoil(0, 0, 0);
         SlotCluster y = cluster("node flaky 38 active;node");
         y.rounds(1);
@@ -627,6 +682,9 @@ public final class PromiseTests {
         is("none", none.widest(60), 0);
         is("now", x.widest(0), 101);
         is("later", cluster("node fast 9 active;node slow 9 active;window 999;node silent active;precision 1").widest(0), 0);
+        is("now, behind later", x.widest(0), 101);
+        is("no draws", cluster("node flaky 99 active;node ahead 40 active").widest(1), 40);
+        is("no draws", cluster("node flaky 99 active;node ahead 40 active").settles(0), 1);
         is("apart", cluster("node fast 9 silent active;node slow 9 silent active").widest(3), 54);
         throwsJust("N", ARGUMENT, () -> none.widest(-1));
         throwsJust("N", ARGUMENT, () -> none.widest(61));
@@ -638,6 +696,14 @@ public final class PromiseTests {
         SlotCluster z = cluster("node off;node;node");
         is("in 3", z.leads(false), 3);
         is("the one", z.leads(true), 1);
+        is("again in 3", z.leads(false), 3);
+        SlotCluster late = cluster("node off", "hold 58");
+        late.power(0, true);
+        is("in 60", late.leads(false), 60);
+        late.power(0, false);
+        tape(late, "hold 59").law();
+        late.power(0, true);
+        is("not in 61", late.leads(false), NONE);
         is("nothing stays", z.count(5), 0);
         is("nothing is noted", z.count(7), 0);
         is("nothing is drawn", z.seed(1), 1);
@@ -658,6 +724,7 @@ public final class PromiseTests {
         is("like", cluster("node active;node active").tight(), 1);
         is("held up counts one way", cluster("node late 9 active;node ahead 20 active").tight(), 20);
         is("torn for odd ones", cluster("node ahead 20 torn 9 active;node active;node ahead 1 active").tight(), 29);
+        is("just active ones", cluster("node;node active;node ahead 7 active;node ahead 900").tight(), 7);
         is("most", cluster("node behind 500 active;node ahead 499 active").tight(), 999);
         is("too far", cluster("node behind 500 active;node ahead 500 active").tight(), NONE);
         promise = 25;
@@ -757,6 +824,19 @@ public final class PromiseTests {
         is("with none", x.pairs(4), NONE);
         throwsJust("no node", INDEX, () -> x.pairs(5));
         throwsJust("no node", INDEX, () -> x.pairs(-2));
+        SlotCluster two = cluster("node active;node ahead 100 active;precision 999");
+        is("100 apart is worth nothing", two.pairs(NONE), 0);
+        two.set(1, 99);
+        is("99 apart is worth 1", two.pairs(NONE), 1);
+        SlotCluster cross = cluster("node active;node ahead 30 active;node ahead 2 active;node ahead 31 active");
+        is("how much", cross.pairs(NONE), 197);
+        int[] with = {2, 3, 0, 1};
+        for (int i = 0; i < 4; i++) {
+            is("with which", cross.pairs(i), with[i]);
+        }
+        cross.tune(true, 1);
+        is("friends alone", cross.pairs(0), NONE);
+        is("cliques by the precision as it is", cross.cliques(), 3);
         SlotCluster far = cluster("node active;node ahead 100 active;node ahead 199 active;window 999;precision 999");
         is("not where that is 0", far.pairs(0), NONE);
         is("where that is 1", far.pairs(1), 2);
@@ -813,6 +893,10 @@ public final class PromiseTests {
         }
         throwsJust("what", ELEMENT, () -> none.most(3));
         throwsJust("what", ELEMENT, () -> x.most(-1));
+        SlotCluster apart = cluster("node ahead 1;node behind 9;node slow 1;node fast 1;node ahead 9");
+        is("fastest", apart.most(0), 3);
+        is("slowest", apart.most(1), 2);
+        is("farthest, of several the least", apart.most(2), 1);
         SlotCluster rate = cluster("node fast 5;node active;node ahead 50 active;round 1");
         rate.rounds(1);
         is("by the rate, too", rate.most(0), 1);
@@ -840,6 +924,12 @@ public final class PromiseTests {
         is("its clock", x.ahead(0, 2, false), 6);
         is("joins, as just 100 omits", x.ahead(1, 3, true), 2);
         is("nothing stays", x.count(5), 0);
+        SlotCluster omits = cluster("node flaky 100 active;node");
+        is("100 omits", omits.ahead(1, 2, true), 1);
+        is("and so the other one calls", omits.ahead(1, 3, true), 2);
+        omits.spoil(0, 1, 3);
+        tape(omits, "omit 99").law();
+        is("100 at most omits", omits.ahead(1, 1, true), 1);
         promise = 40;
         SlotCluster y = cluster("node flaky 50 active;node ahead 30;node ahead 5 active;window 3");
         throwsJust("N", ARGUMENT, () -> y.trial(61, true));
@@ -872,6 +962,11 @@ public final class PromiseTests {
         is("the least", w.span(1, false), least);
         is("the greatest", w.span(1, true), most);
         is("they differ", most - least, 1);
+        // The first DRAWS modulo 100 of SEED 1 to 7: 38, 8, 47, 17, 55, 26, 64.
+        is("just seed 2 is below 9", cluster("node flaky 9 active;node").span(1, false), 1);
+        is("none is below 8", cluster("node flaky 8 active;node").span(1, false), 2);
+        is("just seed 5 is not below 55", cluster("node flaky 55 active;node").span(1, true), 2);
+        is("all are below 56", cluster("node flaky 56 active;node").span(1, true), 1);
         is("the seed stays", w.seed(1), 99);
         is("of none", new SlotCluster().span(60, false), 0);
     }
@@ -938,6 +1033,30 @@ public final class PromiseTests {
         is("the seed as it was", x.seed(1), 4);
         x.rounds(60);
         is("rounds of one call are one", x.count(8), 1);
+        SlotCluster all = cluster("node slow 2 active;node ahead 40 active;node flaky 3 late 4;round 1");
+        all.rounds(1);
+        int[] was = new int[54];
+        for (int i = 0; i < 54; i++) {
+            was[i] = all.node(i / 18, i % 18);
+        }
+        int row = all.log(0, 1);
+        all.rounds(7);
+        all.power(0, false);
+        all.power(0, true);
+        all.spoil(2, 3, 9);
+        all.set(1, 500);
+        all.tune(false, 9);
+        all.tune(true, 9);
+        all.add(5);
+        is("acts", all.count(8), 9);
+        for (int i = 0; i < 8; i++) {
+            is("undone", all.undo(), true);
+        }
+        for (int i = 0; i < 54; i++) {
+            is("node(" + i / 18 + ", " + i % 18 + ") again", all.node(i / 18, i % 18), was[i]);
+        }
+        is("the log again", all.log(0, 1), row);
+        is("its rows", all.count(7), 1);
         x.undo();
         is("round", x.count(5), 0);
         is("log", x.count(7), 0);

@@ -275,6 +275,15 @@ public final class PromiseTests {
         is("no lines", x.count(2), 0);
         is("12 lines", tape(x, times("late 99", ";", 12)).law(), 12);
         is("held up by all", x.node(0, 11), 1188);
+        for (int k = 0; k < 3; k++) {
+            String longest = "late 9 if " + times("1", "+", 193) + "<194;";
+            is("400 bytes", tape(x, longest).end(400), true);
+            is("400 bytes", longest.length(), 400);
+            throwsJust("a LINE must come", ARGUMENT, () -> x.law());
+            is("fault at the end", x.fault(), 400);
+            is("399 bytes", tape(x, longest.substring(0, 399)).law(), 1);
+            is("193 is less than 194", x.node(0, 11), 9);
+        }
         wrongLaw("late", 4);
         wrongLaw("late 100", 5);
         wrongLaw("late 1000", 5);
@@ -967,6 +976,8 @@ public final class PromiseTests {
         is("none is below 8", cluster("node flaky 8 active;node").span(1, false), 2);
         is("just seed 5 is not below 55", cluster("node flaky 55 active;node").span(1, true), 2);
         is("all are below 56", cluster("node flaky 56 active;node").span(1, true), 1);
+        // Of SEED 6: 26 and 15; of no other of the six both are below 27 and 16.
+        is("just by seed 6 both omit", cluster("node flaky 27 active;node flaky 16 active;node").span(1, false), 2);
         is("the seed stays", w.seed(1), 99);
         is("of none", new SlotCluster().span(60, false), 0);
     }
@@ -1070,6 +1081,29 @@ public final class PromiseTests {
         x.tune(true, 8);
         tape(x, "").cluster();
         is("a cluster forgets", x.undo(), false);
+        SlotCluster ring = cluster("node;node", "hold 1 if node<1");
+        for (int k = 0; k < 30; k++) {
+            ring.power(0, false);
+            ring.power(1, false);
+            ring.power(1, true);
+            ring.power(0, true);
+            ring.rounds(3);
+        }
+        is("the log is full", ring.count(7), 60);
+        is("its oldest row", ring.log(59, 0), 2);
+        ring.image();
+        ring.power(0, false);
+        ring.rounds(60);
+        is("pushed out", ring.log(59, 1), 1);
+        ring.undo();
+        ring.undo();
+        is("the oldest row again", ring.log(59, 0), 2);
+        is("of node 0", ring.log(59, 1), 0);
+        ring.power(1, false);
+        ring.rounds(60);
+        ring.back();
+        is("the oldest row by the image", ring.log(59, 0), 2);
+        is("the latest row by the image", ring.log(0, 2), 1);
         promise = 46;
         SlotCluster y = cluster("node ahead 4;window 7", "late 5");
         y.rounds(2);

@@ -283,6 +283,8 @@ public final class PromiseTests {
             is("fault at the end", x.fault(), 400);
             is("399 bytes", tape(x, longest.substring(0, 399)).law(), 1);
             is("193 is less than 194", x.node(0, 11), 9);
+            is("399 bytes", tape(x, longest.substring(0, 396) + "193").law(), 1);
+            is("193 is not less than 193", x.node(0, 11), 0);
         }
         wrongLaw("late", 4);
         wrongLaw("late 100", 5);

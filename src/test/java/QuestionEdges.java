@@ -534,6 +534,12 @@ final class QuestionEdges {
             12 x when [] = 9
             when [1 128 1 128 1 128] = 0
             """);
+        edge("WHEN: the ROUND (0 to 9): by 9 those that fit are parted best; by 10 they would be, but it is none", """
+            when [18 137 4 115] = 9
+            read false [18 137 4 115] = 20
+            when [0 105 13 166] = 1
+            read false [0 105 13 166] = 26
+            """);
         edge("WHEN: IllegalArgumentException: the TAPE is not that", """
             when [0] ! Argument
             when [100 128] ! Argument

@@ -89,6 +89,16 @@ final class QuestionEdges {
             each 5 = 7 7 7 0
             agreed = true
             """);
+        edge("AGREED: of eight", """
+            cluster '{8;node active}'
+            agreed = false
+            rounds 1 = 0
+            each 5 = 255 255 255 255 255 255 255 255
+            agreed = true
+            power 7 false
+            power 7 true
+            agreed = true
+            """);
     }
 
     private static void cliques() {
@@ -221,6 +231,13 @@ final class QuestionEdges {
             rounds 1 = 0
             widest 0 = 9
             """);
+        edge("WIDEST: IN N ROUNDS (no DRAWS: those that are FLAKY 99 are put right all the same)", """
+            cluster 'node fast 9 flaky 99 active;node slow 9 flaky 99 active'
+            widest 1 = 18
+            widest 2 = 32
+            widest 3 = 32
+            trial 3 true = 54
+            """);
     }
 
     private static void leads() {
@@ -292,6 +309,17 @@ final class QuestionEdges {
             tune false 34
             each 14 = 0 1
             """);
+        edge("NARROW: not SILENT alone: one whose OMITS is 100 counts", """
+            cluster 'node ahead 300 flaky 100 active;node ahead 400 silent active;node ahead 500 flaky 100'
+            narrow = 300
+            law 'omit 99;late 1'
+            narrow = 301
+            """);
+        edge("NARROW: of eight the last one", """
+            cluster '{7;node active};node behind 77 active'
+            narrow = 77
+            tight = 77
+            """);
         edge("TIGHT: 1 with fewer than two ACTIVE ones", """
             tight = 1
             cluster 'node;node ahead 500' = 1
@@ -337,6 +365,15 @@ final class QuestionEdges {
             rounds 1 = 0
             set 1 0
             tight = 90
+            """);
+        edge("TIGHT: all ACTIVE ones, those that are SILENT or OMIT, too", """
+            cluster 'node active;node ahead 70 silent active'
+            tight = 70
+            law 'late 5 if node>0'
+            tight = 75
+            spoil 1 0 0
+            law 'omit 99;omit 1;late 5 if node>0'
+            tight = 75
             """);
     }
 
@@ -449,6 +486,18 @@ final class QuestionEdges {
             order 2 = 1
             order 3 = -1
             """);
+        edge("ORDER: what is FROZEN is none of them", """
+            cluster 'node active;node ahead 10 active;node ahead 400 active;window 999'
+            order -1 = 400
+            rounds 1 = 1
+            each 3 = 2 2 3
+            each 0 = 5 5 400
+            order -1 = 0
+            order 0 = 0
+            order 1 = 1
+            order 2 = -1
+            spread = 0
+            """);
     }
 
     private static void read() {
@@ -468,6 +517,14 @@ final class QuestionEdges {
             read true [39*0] ! Argument
             tape 0
             read true [0 128] = 760
+            """);
+        edge("READ: bytes that were cut off are none of its rows", """
+            feed 8454143 -1 -1 -1 -1 = 20
+            end 2 = true
+            read true = 760
+            feed 8454143 -1 -1 -1 -1 = 20
+            end 2 = true
+            when = 9
             """);
         edge("READ: a ROUND (0 to 99, else the TAPE is not that)", """
             read false [100 128] ! Argument
@@ -539,6 +596,11 @@ final class QuestionEdges {
             read false [18 137 4 115] = 20
             when [0 105 13 166] = 1
             read false [0 105 13 166] = 26
+            """);
+        edge("WHEN: the first of all (FROM - 40, BY - 9) counts as well", """
+            read false [0 88 0 88 1 79 1 80] = 2
+            read true [0 88 0 88 1 79 1 80] = 0
+            when [0 88 0 88 1 79 1 80] = 1
             """);
         edge("WHEN: IllegalArgumentException: the TAPE is not that", """
             when [0] ! Argument
@@ -764,6 +826,18 @@ final class QuestionEdges {
             law 'omit 99 if node>0 and node<2'
             share 1 4 = 3
             """);
+        edge("SHARE: 100 less FLAKY, by 1 more than the slots it has so far: 33 of 66 by 2 is as much as 100 by 3", """
+            cluster 'node flaky 34;node'
+            share 1 1 = 1
+            share 0 2 = 1
+            share 1 3 = 2
+            share 0 4 = 2
+            """);
+        edge("SHARE: NODES in whatever STATE; a FAULT is no matter", """
+            cluster 'node silent;node flaky 50 active;node off'
+            share 0 1 = 1
+            share 2 2 = 1
+            """);
         edge("SHARE: all have 0 claims", """
             cluster 'node flaky 100;node flaky 100'
             share 0 99 = 99
@@ -986,6 +1060,15 @@ final class QuestionEdges {
             power 0 false
             span 1 true = 0
             seed 1 = 99
+            """);
+        edge("SPAN: from SEED 1, 2, .. 6, and not from the SEED that is (132: its DRAW is 0)", """
+            cluster 'node flaky 1 active;node'
+            seed 132 = 1
+            trial 1 false = 1
+            span 1 false = 2
+            span 1 true = 2
+            trial 1 false = 1
+            seed 1 = 132
             """);
         edge("SPAN: from SEED 2, the least DRAW (8 is below 9)", """
             cluster 'node flaky 9 active;node'

@@ -73,6 +73,12 @@ final class RoundEdges {
             rounds 1 = 0
             each 14 = 0 1 1 1
             """);
+        edge("HEARS by SHIFT and CLOCK alone, whatever the FAULT and the STATE", """
+            cluster 'node silent;node off;node flaky 100 active'
+            hears 1 0 = true
+            hears 0 1 = true
+            hears 0 2 = true
+            """);
         edge("HEARS: SHIFT of that one, less its own CLOCK, is from 0 less PRECISION to PRECISION", """
             cluster 'node;node ahead 50;node ahead 51;node behind 50;node behind 51'
             hears 0 1 = true
@@ -267,6 +273,13 @@ final class RoundEdges {
             each 0 = 0 30 21
             each 5 = 1 3 5
             each 11 = 50 50 20
+            """);
+        edge("SHIFT and HEARS stay so till the end of the ROUND: (f) is by HELD UP as it was ahead of (c)", """
+            cluster 'node active;node ahead 10 active'
+            law 'late 40 if good>0' = 1
+            rounds 1 = 0
+            each 0 = 5 5
+            each 11 = 40 40
             """);
     }
 
@@ -556,6 +569,12 @@ final class RoundEdges {
             each 3 = 3 2 2 2
             each 0 = 101 0 0 0
             """);
+        edge("(f) each OLD one: one that JOINS is not put right in this ROUND", """
+            cluster 'node active;node ahead 40 active;node ahead 40 active;node'
+            rounds 1 = 0
+            each 3 = 2 2 2 2
+            each 0 = 40 40 40 0
+            """);
         edge("(f) SENDERS that it does not HEAR count for nothing", """
             cluster 'node active;node ahead 30 active;node ahead 40 active;node ahead 51 active'
             rounds 1 = 0
@@ -790,6 +809,16 @@ final class RoundEdges {
             spoil 0 0 -2147483648 = 1
             node 0 10 = 0
             """);
+        edge("a FAULT is told: of the kind that it was, it is an ACT, too", """
+            cluster 'node late 5'
+            spoil 0 1 5 = 1
+            spoil 0 1 9 = 1
+            count 8 = 2
+            undo = true
+            node 0 10 = 5
+            undo = true
+            undo = false
+            """);
         edge("spoil: of several exceptions the one told first is thrown", """
             cluster 'node'
             spoil 1 4 0 ! Index
@@ -896,6 +925,14 @@ final class RoundEdges {
             rounds 1 = 2
             power 1 false = 3
             all 1 = 60 0 0 0 3 0 1 1 0 0 0
+            """);
+        edge("switched off: MEMBERS none, all else stays (WAIT of one that is LISTENING)", """
+            cluster 'node;node;node'
+            rounds 1 = 0
+            each 4 = 1 2 3
+            power 1 false = 1
+            each 4 = 1 2 3
+            each 3 = 1 0 1
             """);
     }
 
@@ -1147,6 +1184,24 @@ final class RoundEdges {
             count 8 = 0
             undo = false
             count 0 = 3
+            """);
+        edge("A text, of THE CLUSTER or THE LAW, alters just what it tells: THE LOG, the SEED, THE IMAGE, all else stay", """
+            cluster 'node;node off'
+            image
+            rounds 2 = 0
+            tune false 7
+            tune true 8
+            seed 5 = 1
+            cluster 'node' = 2
+            row 0 = 1 0 0 0
+            counts = 3 2 -1 7 8 2 1 1 0
+            law 'late 1' = 1
+            row 0 = 1 0 0 0
+            counts = 3 2 1 7 8 2 1 1 0
+            all 0 = 0 0 0 2 0 1 0 0 0 0 0
+            seed 5 = 5
+            back = true
+            counts = 2 1 -1 100 50 0 0 0 0
             """);
         edge("A call that throws changes nothing: what is remembered stays", """
             cluster 'node'

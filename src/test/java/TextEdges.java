@@ -177,6 +177,12 @@ final class TextEdges {
             counts = 0 12 -1 8 50 0 0 0 0
             tape 0
             """);
+        edge("law: no text of THE CLUSTER, so 12 of these leave room for it", """
+            12 x cluster 'window 8'
+            law 'late 3' = 1
+            law 'late 3;late 4' = 2
+            counts = 0 12 2 8 50 0 0 0 0
+            """);
         edge("cluster: of several exceptions the one told first is thrown", """
             12 x cluster 'window 8'
             cluster 'window 0' wrong 7
@@ -329,6 +335,16 @@ final class TextEdges {
             cluster 'round 0' = 2
             count 5 = 0
             """);
+        edge("A word is no number", """
+            cluster 'round node' wrong 6
+            cluster 'round round' wrong 6
+            cluster 'window node' wrong 7
+            cluster 'precision ;' wrong 10
+            cluster 'node ahead node' wrong 11
+            cluster 'node late off' wrong 10
+            law 'late node' wrong 5
+            law 'hold if even' wrong 5
+            """);
         edge("Numbers are of 1 to 3 digits", """
             cluster 'node ahead 0007' wrong 11
             cluster 'window 0001' wrong 7
@@ -375,6 +391,13 @@ final class TextEdges {
             cluster 'Node' wrong 0
             cluster 'node ahead 1 2' wrong 13
             cluster 'node a head 1' wrong 5
+            """);
+        edge("Words are as long as a to z go on (A to Z are none of these)", """
+            cluster 'nodeA' wrong 4
+            cluster 'nodeZ' wrong 4
+            cluster 'node Active' wrong 5
+            law 'late 5 ifX' wrong 9
+            law 'late 5 if evenA' wrong 14
             """);
         edge("blanks (32): no other byte is one", """
             cluster [110 111 100 101 9] wrong 4
@@ -510,6 +533,13 @@ final class TextEdges {
             each 11 = 6 4 5 1 9
             law 'late 1 if fast>0;late 2 if fast>9;late 4 if slow>0;late 8 if slow>9' = 4
             each 11 = 1 1 0 4 4
+            """);
+        edge("fast, slow: else 0, and not below 0", """
+            cluster 'node slow 3;node fast 3;node'
+            law 'late 1 if fast+9<9;late 2 if slow+9<9' = 2
+            each 11 = 0 0 0
+            law 'late 1 if fast+slow>2' = 1
+            each 11 = 1 1 0
             """);
         edge("fast, slow: RATE, too", """
             cluster 'node slow 5 active;node ahead 40 active;round 1'
